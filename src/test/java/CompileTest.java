@@ -14,6 +14,7 @@ public final class CompileTest {
         failureUnmakesReady();
         keepsTokensAndRun();
         bodies();
+        nothingLeftOfEarlierProgram();
         check.end();
     }
 
@@ -180,5 +181,21 @@ public final class CompileTest {
         for (int method = 1; method < 8; method++) {
             check.intResult("CALL:" + method + " VAR:0" + program, 3, 3 + 10 * method);
         }
+    }
+
+    private static void nothingLeftOfEarlierProgram() {
+        HomeContexts x = check.ready("BLOCK BLOCK SEQ PRINT PRINT PRINT PRINT PARAM PARAM");
+        x.clear();
+        check.add(x, "1 PARAM");
+        check.due("compile of PARAM where a block's token was", x.compile(), HomeContexts.C_PARAM);
+        x.clear();
+        check.add(x, "1 2 3 4 5 6 7 8");
+        check.due("compile where deep tokens were", x.compile(), HomeContexts.C_OK);
+        check.due("methodCount where deep tokens were", x.methodCount(), 8);
+        x.clear();
+        check.add(x, "CALL:1 0 PRINT 5");
+        check.due("compile where other methods were", x.compile(), HomeContexts.C_OK);
+        check.due("run where other methods were", x.run(0, 1), HomeContexts.OUT_RESULT);
+        check.due("result where other methods were", x.resultValue(), 5);
     }
 }

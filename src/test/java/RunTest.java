@@ -339,6 +339,22 @@ public final class RunTest {
         check.due("fuelLeft", x.fuelLeft(), 0);
         check.due("maxDepth", x.maxDepth(), 16);
         blocksToo();
+        muchWaiting();
+    }
+
+    // As many tokens as can be wait in each of 16 activations.
+    private static void muchWaiting() {
+        HomeContexts x = check.ready("IF VAR:0 ADD 1 ADD 1 ADD 1 ADD 1 CALL:0 SUB VAR:0 1 0");
+        check.due("run with four sums waiting in each", x.run(15, 15), RESULT);
+        check.due("result with four sums waiting in each", x.resultValue(), 60);
+        HomeContexts y = check.ready("ADD 1 ".repeat(6) + "CALL:0 VAR:0");
+        check.due("run with six sums waiting in each", y.run(0, 255), DEPTH);
+        check.due("fuelLeft with six sums waiting in each", y.fuelLeft(), 239);
+        HomeContexts z = check.ready("ADD 1 ".repeat(6) + "CALL:1 13"
+            + " ADD 1 ADD 1 ADD 1 VALUE BLOCK PARAM IF VAR:0 CALL:1 SUB VAR:0 1 0");
+        check.due("run with blocks and calls waiting", z.run(0, 255), RESULT);
+        check.due("result with blocks and calls waiting", z.resultValue(), 48);
+        check.due("maxDepth with blocks and calls waiting", z.maxDepth(), 16);
     }
 
     private static void blocksToo() {
@@ -363,6 +379,7 @@ public final class RunTest {
         check.due("result of a tree of calls", x.resultValue(), 64);
         check.due("fuelLeft of a tree of calls", x.fuelLeft(), 128);
         check.due("maxDepth of a tree of calls", x.maxDepth(), 8);
+        longRun();
         // All 255 units: the first activation's locals outlive 255 other homes.
         String all = "SEQ SET:1 77 SEQ SET:2 CALL:1 7 SEQ PRINT VAR:1 CALL:1 0"
             + " IF VAR:0 SEQ CALL:1 SUB VAR:0 1 CALL:1 SUB VAR:0 1 1";
@@ -372,6 +389,19 @@ public final class RunTest {
         HomeContexts z = check.ran(all.replace("PRINT VAR:1 CALL:1 0", "PRINT VAR:1 VAR:1"), 0, 255, RESULT);
         check.due("result after 255 calls", z.resultValue(), 77);
         check.due("fuelLeft after 255 calls", z.fuelLeft(), 0);
+    }
+
+    // All the fuel, and a large body for half of the calls.
+    private static void longRun() {
+        String sum = "1 ";
+        for (int level = 0; level < 5; level++) {
+            sum = "ADD " + sum + sum;
+        }
+        String program = "CALL:1 7 IF VAR:0 ADD CALL:1 SUB VAR:0 1 CALL:1 SUB VAR:0 1 " + sum;
+        HomeContexts x = check.ran(program, 0, 255, RESULT);
+        check.due("result of a long run", x.resultValue(), 32 * 128);
+        check.due("fuelLeft of a long run", x.fuelLeft(), 0);
+        check.due("maxDepth of a long run", x.maxDepth(), 9);
     }
 
     private static void stopping() {
