@@ -59,19 +59,11 @@ public final class AnswersTest {
 
     /** A block at 126, the greatest index that one can have: 2 + 63 + 31 + 15 + 15 tokens stand before it. */
     private static void lastToken() {
-        HomeContexts x = check.ready("CALL:5 0 " + sum(5) + sum(4) + sum(3) + sum(3) + "BLOCK 2");
+        HomeContexts x = check.ready("CALL:5 0 " + Check.sum(5) + Check.sum(4) + Check.sum(3) + Check.sum(3) + "BLOCK 2");
         check.due("tokenCount", x.tokenCount(), 128);
         check.due("run", x.run(0, 1), HomeContexts.OUT_RESULT);
         check.due("resultKind of the last block", x.resultKind(), HomeContexts.K_BLOCK);
         check.due("resultValue of the last block", x.resultValue(), 126);
-    }
-
-    private static String sum(int levels) {
-        String sum = "1 ";
-        for (int level = 0; level < levels; level++) {
-            sum = "ADD " + sum + sum;
-        }
-        return sum;
     }
 
     private static void printCounts() {

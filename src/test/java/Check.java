@@ -7,12 +7,18 @@ final class Check {
 
     private int wrong = 0;
     private int asked = 0;
+    private String sentence = "";
+
+    /** Names the sentence of the document that the next answers bear on, for the report of a wrong one. */
+    void sentence(int promise, String words) {
+        sentence = "promise " + promise + ", '" + words + "': ";
+    }
 
     void due(String what, long got, long want) {
         asked++;
         if (got != want) {
             wrong++;
-            System.out.println(what + " answered " + got + ", due is " + want);
+            System.out.println(sentence + what + " answered " + got + ", due is " + want);
         }
     }
 
@@ -38,6 +44,15 @@ final class Check {
 
     static String wordOf(int kind) {
         return WORDS[kind];
+    }
+
+    /** A sum of as many ones as 2 to the power of levels, with depth levels + 1. */
+    static String sum(int levels) {
+        String sum = "1 ";
+        for (int level = 0; level < levels; level++) {
+            sum = "ADD " + sum + sum;
+        }
+        return sum;
     }
 
     /** Adds tokens written as words: a kind, or a kind with its v as in NUM:5; a bare number is a NUM. */
@@ -126,7 +141,7 @@ final class Check {
         asked++;
         if (!got.equals(want)) {
             wrong++;
-            System.out.println(what + " gave\n  " + got + "\n  due is\n  " + want);
+            System.out.println(sentence + what + " gave\n  " + got + "\n  due is\n  " + want);
         }
     }
 }

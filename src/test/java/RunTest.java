@@ -393,11 +393,7 @@ public final class RunTest {
 
     // All the fuel, and a large body for half of the calls.
     private static void longRun() {
-        String sum = "1 ";
-        for (int level = 0; level < 5; level++) {
-            sum = "ADD " + sum + sum;
-        }
-        String program = "CALL:1 7 IF VAR:0 ADD CALL:1 SUB VAR:0 1 CALL:1 SUB VAR:0 1 " + sum;
+        String program = "CALL:1 7 IF VAR:0 ADD CALL:1 SUB VAR:0 1 CALL:1 SUB VAR:0 1 " + Check.sum(5);
         HomeContexts x = check.ran(program, 0, 255, RESULT);
         check.due("result of a long run", x.resultValue(), 32 * 128);
         check.due("fuelLeft of a long run", x.fuelLeft(), 0);

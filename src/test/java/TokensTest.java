@@ -93,7 +93,8 @@ public final class TokensTest {
 
     private static void refusedByFullList() {
         HomeContexts x = new HomeContexts();
-        check.add(x, fullProgram());
+        // A method of 127 tokens and a method of one token.
+        check.add(x, Check.sum(6) + "9");
         check.due("tokenCount of a full program", x.tokenCount(), 128);
         check.due("compile of a full program", x.compile(), HomeContexts.C_OK);
         check.due("run of a full program", x.run(2, 3), HomeContexts.OUT_RESULT);
@@ -101,15 +102,6 @@ public final class TokensTest {
         String before = Check.allAnswers(x);
         check.due("addToken to a full program", x.addToken(HomeContexts.T_NUM, 0), false);
         check.same("a token refused by a full program", Check.allAnswers(x), before);
-    }
-
-    /** A method of 127 tokens, the sum of 64 ones, and a method of one token. */
-    private static String fullProgram() {
-        String sum = "1 ";
-        for (int level = 0; level < 6; level++) {
-            sum = "ADD " + sum + sum;
-        }
-        return sum + "9";
     }
 
     private static void acceptedTokenMakesNotReady() {
